@@ -12,7 +12,7 @@ public final class ThrownCoins {
     private static final int MOST_PLANNED = 5, MOST_PLAYED = 6, MOST_CHANCES = 10, MOST_ROUNDS = 200;
     private static final int KEEPS = 2, WITHOUT = 100000;
 
-    private static final int BELOW = 0, UP_TO = 1, ONE_OF_NEXT = 2, LAST_LAW = 3;
+    private static final int BELOW = 0, UP_TO = 1, ONE_OF_NEXT = 2, ALL_OF_NEXT = 3;
     private static final int NEVER = 0, GREEDY = 1, WAITING = 2, CHEAP = 3;
     private static final int LAST_TAKEN_AS = 5;
 
@@ -364,16 +364,6 @@ public final class ThrownCoins {
             }
         }
 
-        /** The greatest kind, not above a kind, of which a coin lies there. */
-        int greatestLying(int kind) {
-            for (int k = kind; k >= 0; k--) {
-                if (of(FOUNTAIN, k) > 0) {
-                    return k;
-                }
-            }
-            return NONE;
-        }
-
         void empty() {
             for (int i = 0; i < coins.length; i++) {
                 coins[i] = 0;
@@ -483,43 +473,41 @@ public final class ThrownCoins {
             return sum;
         }
 
-        int takenWorth(Lot lot, int thrown) {
-            int greatest = greatestTaken(lot, thrown);
-            int sum = 0;
-            for (int kind = leastTaken(greatest); kind <= greatest; kind++) {
-                sum += worthOf(kind) * takenOf(lot, kind);
+        int gainOf(Lot lot, int thrown) {
+            int sum = -worthOf(thrown);
+            for (int kind = greatestTaken(thrown); kind >= 0; kind--) {
+                int taken = Math.min(lot.of(FOUNTAIN, kind), mostTakenOfKind());
+                sum += worthOf(kind) * taken;
+                if (taken > 0 && takesOneKind()) {
+                    break;
+                }
             }
             return sum;
         }
 
-        int gainOf(Lot lot, int thrown) {
-            return takenWorth(lot, thrown) - worthOf(thrown);
-        }
-
         void throwCoin(Lot lot, int person, int thrown) {
-            int greatest = greatestTaken(lot, thrown);
-            for (int kind = leastTaken(greatest); kind <= greatest; kind++) {
-                int taken = takenOf(lot, kind);
+            for (int kind = greatestTaken(thrown); kind >= 0; kind--) {
+                int taken = Math.min(lot.of(FOUNTAIN, kind), mostTakenOfKind());
                 lot.add(FOUNTAIN, kind, -taken);
                 lot.add(person, kind, taken);
+                if (taken > 0 && takesOneKind()) {
+                    break;
+                }
             }
             lot.add(person, thrown, -1);
             lot.add(FOUNTAIN, thrown, 1);
         }
 
-        private int greatestTaken(Lot lot, int thrown) {
-            if (law == UP_TO) {
-                return thrown;
-            }
-            return law == BELOW ? thrown - 1 : lot.greatestLying(thrown - 1);
+        private int greatestTaken(int thrown) {
+            return law == UP_TO ? thrown : thrown - 1;
         }
 
-        private int leastTaken(int greatest) {
-            return law == BELOW || law == UP_TO ? 0 : Math.max(greatest, 0);
+        private int mostTakenOfKind() {
+            return law == ONE_OF_NEXT ? 1 : Integer.MAX_VALUE;
         }
 
-        private int takenOf(Lot lot, int kind) {
-            return law == ONE_OF_NEXT ? 1 : lot.of(FOUNTAIN, kind);
+        private boolean takesOneKind() {
+            return law == ONE_OF_NEXT || law == ALL_OF_NEXT;
         }
 
         /** What is thrown by habit at the next visit. */
@@ -810,7 +798,7 @@ public final class ThrownCoins {
         }
 
         private boolean readLaw() {
-            if (!readNumber(0, LAST_LAW)) {
+            if (!readNumber(BELOW, ALL_OF_NEXT)) {
                 return false;
             }
             draft.law = value;
@@ -883,7 +871,7 @@ public final class ThrownCoins {
                 return;
             }
             Lot lot = f.lots[level];
-            while (lot.gone < f.told.visitCount && !f.isFree(f.told.visitor(lot.gone))) {
+            for (int t = lot.gone; t < f.told.visitCount && !f.isFree(f.told.visitor(t)); t++) {
                 f.told.letVisit(lot, f.told.habitual(lot));
             }
             if (lot.gone >= f.told.visitCount || level + 1 >= LEVELS) {
@@ -949,11 +937,15 @@ public final class ThrownCoins {
             for (int i = 0; i < others && i < MOST_CHANCES; i++) {
                 below *= 10;
             }
-            for (int i = 0; i < others; i++) {
-                int two = above % 2 == 0 ? 2 : 1;
-                int five = above % 5 == 0 ? 5 : 1;
-                above /= two * five;
-                below /= two * five;
+            for (int i = 0; i < others && i < MOST_CHANCES; i++) {
+                if (above % 2 == 0) {
+                    above /= 2;
+                    below /= 2;
+                }
+                if (above % 5 == 0) {
+                    above /= 5;
+                    below /= 5;
+                }
             }
             return part == 0 ? above : below;
         }
@@ -965,8 +957,8 @@ public final class ThrownCoins {
             }
             Lot lot = f.lots[level];
             long weight = 1;
-            while (lot.gone < f.told.visitCount) {
-                boolean certain = f.told.visitor(lot.gone) == f.hoping;
+            for (int t = lot.gone; t < f.told.visitCount; t++) {
+                boolean certain = f.told.visitor(t) == f.hoping;
                 int kind = f.told.habitual(lot);
                 if (!certain && kind != NONE) {
                     return weight * ((10 - f.tenths) * weighNext(f, level, NONE) + f.tenths * weighNext(f, level, kind));
@@ -1094,7 +1086,7 @@ public final class ThrownCoins {
                 lot.add(FOUNTAIN, kind, figureOf(figures, kind));
             }
             for (int i = 0; i < size && i < MOST_NOTES; i++) {
-                if (told.takenWorth(lot, thrown[i]) != taken[i]) {
+                if (told.gainOf(lot, thrown[i]) + told.worthOf(thrown[i]) != taken[i]) {
                     return false;
                 }
                 told.throwCoin(lot, 0, thrown[i]);
