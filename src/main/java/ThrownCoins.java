@@ -961,7 +961,9 @@ public final class ThrownCoins {
                 boolean certain = f.told.visitor(t) == f.hoping;
                 int kind = f.told.habitual(lot);
                 if (!certain && kind != NONE) {
-                    return weight * ((10 - f.tenths) * weighNext(f, level, NONE) + f.tenths * weighNext(f, level, kind));
+                    long away = (10 - f.tenths) * weighNext(f, level, NONE);
+                    long there = f.tenths * weighNext(f, level, kind);
+                    return weight * (away + there);
                 }
                 f.told.letVisit(lot, kind);
                 weight *= certain ? 1 : 10;
@@ -1080,6 +1082,7 @@ public final class ThrownCoins {
             return figures >> 2 * (told.kinds - 1 - kind) & MOST_LAID;
         }
 
+        /** Who threw is not told: person 0 stands in for all, with a purse that nobody looks into. */
         private boolean fits(int figures) {
             lot.empty();
             for (int kind = 0; kind < told.kinds; kind++) {
