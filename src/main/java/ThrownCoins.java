@@ -15,6 +15,7 @@ public final class ThrownCoins {
     private static final int BELOW = 0, UP_TO = 1, ONE_OF_NEXT = 2, ALL_OF_NEXT = 3;
     private static final int NEVER = 0, GREEDY = 1, WAITING = 2, CHEAP = 3;
     private static final int LAST_TAKEN_AS = 5;
+    private static final int EACH_HIS_OWN = 0x8421;
 
     private final Told told = new Told();
     private final Lot now = new Lot();
@@ -92,7 +93,7 @@ public final class ThrownCoins {
             case 1:
                 return told.folkOf(person).habit();
             case 2:
-                return told.folkOf(person).boundOf(told, person);
+                return told.folkOf(person).waitsFor(told, person);
             case 3:
                 return told.visitsLeft(now, 1 << person);
             default:
@@ -173,14 +174,22 @@ public final class ThrownCoins {
         if (!isPerson(person)) {
             return UNKNOWN;
         }
-        return foreseeGame() ? foretelling.endOf(person) : NOT;
+        if (tooLongForGame()) {
+            return NOT;
+        }
+        foretelling.foresee(now, EACH_HIS_OWN);
+        return foretelling.endOf(person);
     }
 
     public int choice(int i) {
         if (i < 0) {
             return OUTSIDE;
         }
-        return foreseeGame() ? foretelling.step(i) : NOT;
+        if (tooLongForGame()) {
+            return NOT;
+        }
+        foretelling.foresee(now, EACH_HIS_OWN);
+        return foretelling.step(i);
     }
 
     public int league(int one, int other) {
@@ -310,23 +319,15 @@ public final class ThrownCoins {
         return sum;
     }
 
-    private boolean foreseeGame() {
-        if (told.visitCount - now.gone > MOST_PLAYED) {
-            return false;
-        }
-        int goals = 0;
-        for (int person = 0; person < PEOPLE; person++) {
-            goals |= goalFor(person, 1 << person);
-        }
-        foretelling.foresee(now, goals);
-        return true;
+    private boolean tooLongForGame() {
+        return told.visitCount - now.gone > MOST_PLAYED;
     }
 
     private static boolean isPerson(int person) {
         return person >= 0 && person < PEOPLE;
     }
 
-    /** A goal is a set of people whose purses together one wants most; four bits of all goals are each one's. */
+    /** A goal is the set of people whose purses one wants most; each has four bits of all goals, 0 for BY HABIT. */
     private static int goalFor(int person, int whosePurses) {
         return whosePurses << 4 * person;
     }
@@ -429,7 +430,7 @@ public final class ThrownCoins {
         }
 
         int boundOf(int person) {
-            return isPerson(person) ? bounds[person] : 0;
+            return person >= 0 && person < PEOPLE ? bounds[person] : 0;
         }
 
         Folk folkOf(int person) {
@@ -531,7 +532,7 @@ public final class ThrownCoins {
         /** The kind that he throws by habit, or NONE. */
         abstract int wouldThrow(Told told, Lot lot, int person);
 
-        int boundOf(Told told, int person) {
+        int waitsFor(Told told, int person) {
             return NONE;
         }
     }
@@ -590,7 +591,7 @@ public final class ThrownCoins {
             return Math.max(1, told.boundOf(person));
         }
 
-        int boundOf(Told told, int person) {
+        int waitsFor(Told told, int person) {
             return told.boundOf(person);
         }
     }

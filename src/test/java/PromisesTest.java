@@ -179,6 +179,9 @@ public final class PromisesTest {
         faultAt(0, "a");
         faultAt(0, "alon");
         faultAt(0, "alonealone");
+        faultAt(0, "alonez");
+        faultAt(0, "blone");
+        faultAt(0, "alonf");
         faultAt(6, "alone alone");
         faultAt(5, "alone1");
         faultAt(5, "alone\tlaw 1");
@@ -271,6 +274,7 @@ public final class PromisesTest {
         faultAt(6, "never 4");
         faultAt(7, "greedy 4");
         faultAt(8, "waiting 4 1");
+        faultAt(NONE, "waiting 3 99;never 3;greedy 3;cheap 3;purse 3 0 0");
         faultAt(10, "waiting 0 100");
         faultAt(6, "cheap 4");
         faultAt(7, "come 3 4");
@@ -412,6 +416,10 @@ public final class PromisesTest {
         due("cheap, gain 0", told(even + "cheap 0").as(0, 5), NONE);
         due("greedy, gain 1", told(even + "greedy 0;lies 0 6").as(0, 3), 1);
         due("cheap, gain 1", told(even + "cheap 0;lies 0 6").as(0, 5), 1);
+        due("waiting 1, gain 1", told(even + "waiting 0 1;lies 0 6").as(0, 4), 1);
+        due("waiting 0, gain 1", told(even + "waiting 0 0;lies 0 6").as(0, 4), 1);
+        // Kinds 1 and 2 gain 2 and 3: 4 less 2, and 4 + 2 less 3.
+        due("greater by 1", told("coins 1 2 3;lies 0 4;lies 1 1;purse 0 1 1;purse 0 2 1;greedy 0").as(0, 3), 2);
         // Kinds 1 and 2 gain 2 each: 4 less 2, and 4 + 2 less 4.
         String alike = "coins 1 2 4;lies 0 4;lies 1 1;purse 0 2 1;";
         due("only those that he has", told(alike + "greedy 0").as(0, 0), 2);
@@ -491,9 +499,16 @@ public final class PromisesTest {
         due("kind 3", x.visit(3), UNKNOWN);
         due("far above", x.visit(MOST), UNKNOWN);
         tell(x, "alone;come 0 3");
+        due("he has no such coin", x.visit(0), NOT);
         due("he has no such coin", x.visit(1), NOT);
         due("nothing has gone", x.count(4), 0);
         due("one may throw nothing", x.visit(NONE), 100000);
+        tell(x, "alone;come 3 3;purse 3 0 1");
+        due("the least kind takes nothing", x.visit(0), 99999);
+        due("it lies there", x.coin(0, 1), 10);
+        tell(x, "law 1");
+        due("but by law 1 its likes", x.visit(0), 100008);
+        due("and lies there alone", x.coin(0, 1), 1);
     }
 
     private static void go() {
@@ -656,6 +671,9 @@ public final class PromisesTest {
         due("person 4", x.mean(4, 5, 2), UNKNOWN);
         due("nothing changes", x.count(4), 0);
         due("nothing changes", x.coin(0, 1), 4);
+        ThrownCoins y = told("coins 1;law 1;lies 0 4;purse 0 0 1;purse 1 0 1;greedy 0;greedy 1;come 1 0");
+        due("with kind 0: 4 or 1", y.mean(0, 5, 0), 5);
+        due("with kind 0: 4 or 1", y.mean(0, 5, 1), 2);
         tell(x, "alone;come 1 1 0");
         due("each by itself", x.mean(0, 3, 0), 349);
         due("each by itself", x.mean(0, 3, 1), 100);
