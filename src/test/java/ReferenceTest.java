@@ -45,9 +45,8 @@ public final class ReferenceTest {
             int a = argument(what, reference.count(0));
             int b = any(1, 12) == 1 ? any(-3, 7) : (what == 9 || what == 10 ? any(-1, 2) : any(0, 4));
             int c = any(1, 9) == 1 ? any(-1, 2) : any(0, 1);
-            if (what == 7 && any(1, 3) == 1) {
-                c = any(0, 1);
-            }
+            b = any(1, 40) == 1 ? farOff() : b;
+            c = any(1, 40) == 1 ? farOff() : c;
             long due = ask(what, reference, a, b, c);
             long got = ask(what, coins, a, b, c);
             call++;
@@ -62,7 +61,7 @@ public final class ReferenceTest {
 
     private static int argument(int what, int kinds) {
         if (any(1, 15) == 1) {
-            return any(-3, 32);
+            return any(1, 4) == 1 ? farOff() : any(-3, 32);
         }
         switch (what) {
             case 1: case 20: return any(0, kinds - 1);
@@ -74,6 +73,11 @@ public final class ReferenceTest {
             case 24: return any(-2, 5);
             default: return any(0, 3);
         }
+    }
+
+    private static int farOff() {
+        int[] numbers = {Integer.MIN_VALUE, Integer.MIN_VALUE + 1, -1000000, 1000000, Integer.MAX_VALUE - 1, Integer.MAX_VALUE};
+        return numbers[any(0, 5)];
     }
 
     /** Texts that leave little undone: kinds near to one another, so that many rows of throws end alike. */
