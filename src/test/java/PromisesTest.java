@@ -1,17 +1,9 @@
-import java.nio.charset.StandardCharsets;
-
 /** Each promise of the document by hand: ordinary calls, the edges that it names, and wrong calls. */
-public final class PromisesTest {
-    private static final int NONE = -1, UNKNOWN = -2, OUTSIDE = -3, NOT = -4, FULL = -5;
-    private static final int LEAST = Integer.MIN_VALUE, MOST = Integer.MAX_VALUE;
-
+public final class PromisesTest extends Asking {
     /** Person 0 greedy, 1 waiting for 20, 2 cheap, 3 never; they come 0 1 2 0 1 2. */
     private static final String MARKET = "coins 1 5 12 60;lies 0 9;lies 1 3;purse 0 1 2;purse 1 2 1;purse 1 3 1;"
             + "purse 2 0 4;greedy 0;waiting 1 20;cheap 2";
     private static final String MARKET_COMES = "purse 2 2 1;come 0 1 2 0 1 2";
-
-    private static int promise;
-    private static int wrong;
 
     public static void main(String[] args) {
         newObject();
@@ -40,61 +32,11 @@ public final class PromisesTest {
         keepAndBack();
         count();
         nothingChanges();
-        System.out.println(wrong == 0 ? "all promises are kept" : wrong + " answers are not as due");
-        if (wrong != 0) {
-            System.exit(1);
-        }
-    }
-
-    private static void due(String call, long got, long want) {
-        if (got != want) {
-            wrong++;
-            System.out.println("promise " + promise + ": " + call + " answered " + got + ", due is " + want);
-        }
-    }
-
-    private static void writeText(ThrownCoins x, String text) {
-        byte[] bytes = text.getBytes(StandardCharsets.ISO_8859_1);
-        for (int i = 0; i < bytes.length; i += 8) {
-            int n = Math.min(8, bytes.length - i);
-            long packed = 0;
-            for (int j = 0; j < n; j++) {
-                packed |= (bytes[i + j] & 255L) << 8 * j;
-            }
-            due("write of " + text, x.write(packed, n), i + n);
-        }
-    }
-
-    private static ThrownCoins told(String... texts) {
-        ThrownCoins x = new ThrownCoins();
-        for (String text : texts) {
-            tell(x, text);
-        }
-        return x;
-    }
-
-    private static void tell(ThrownCoins x, String text) {
-        writeText(x, text);
-        due("sunday of " + text, x.sunday(), 1 + text.chars().filter(c -> c == ';').count());
-    }
-
-    private static void faultAt(int place, String text) {
-        faultBehind(new ThrownCoins(), place, text);
-    }
-
-    private static void faultBehind(ThrownCoins x, int place, String text) {
-        writeText(x, text);
-        due("fault of '" + text + "'", x.fault(), place);
-        due("fault again of '" + text + "'", x.fault(), place);
-        if (place != NONE) {
-            due("sunday of '" + text + "'", x.sunday(), NOT);
-            due("bytes behind a refused sunday", x.count(6), text.length());
-        }
-        due("erase of '" + text + "'", x.erase(), text.length());
+        end("all promises are kept");
     }
 
     private static void newObject() {
-        promise = 1;
+        sentence("promise 1");
         ThrownCoins x = new ThrownCoins();
         due("kinds", x.count(0), 1);
         due("worth of kind 0", x.coin(0, 0), 1);
@@ -122,7 +64,7 @@ public final class PromisesTest {
     }
 
     private static void write() {
-        promise = 2;
+        sentence("promise 2");
         ThrownCoins x = new ThrownCoins();
         due("no bytes", x.write(0, 0), OUTSIDE);
         due("nine bytes", x.write(0, 9), OUTSIDE);
@@ -153,7 +95,7 @@ public final class PromisesTest {
     }
 
     private static void erase() {
-        promise = 3;
+        sentence("promise 3");
         ThrownCoins x = new ThrownCoins();
         due("nothing there", x.erase(), 0);
         writeText(x, "law 2");
@@ -167,7 +109,7 @@ public final class PromisesTest {
     }
 
     private static void faultsOfTokens() {
-        promise = 4;
+        sentence("promise 4");
         faultAt(0, "");
         faultAt(3, "   ");
         faultAt(0, ";");
@@ -206,7 +148,7 @@ public final class PromisesTest {
     }
 
     private static void faultsOfLines() {
-        promise = 4;
+        sentence("promise 4");
         faultAt(5, "coins");
         faultAt(5, "coins;alone");
         faultAt(6, "coins x");
@@ -247,7 +189,7 @@ public final class PromisesTest {
     }
 
     private static void faultsOfNumbers() {
-        promise = 4;
+        sentence("promise 4");
         faultAt(6, "coins 0");
         faultAt(NONE, "coins 999");
         faultAt(6, "coins 1000");
@@ -282,7 +224,7 @@ public final class PromisesTest {
     }
 
     private static void sunday() {
-        promise = 5;
+        sentence("promise 5");
         ThrownCoins x = told(MARKET);
         due("the text is empty", x.count(6), 0);
         due("it is refused then", x.sunday(), NOT);
@@ -315,7 +257,7 @@ public final class PromisesTest {
     }
 
     private static void whatTextsTell() {
-        promise = 5;
+        sentence("promise 5");
         ThrownCoins x = told(MARKET, MARKET_COMES, "law 2", "coins 3 7");
         due("kinds", x.count(0), 2);
         due("nothing lies there", x.count(1), 0);
@@ -340,7 +282,7 @@ public final class PromisesTest {
     }
 
     private static void coinAndPurse() {
-        promise = 6;
+        sentence("promise 6");
         ThrownCoins x = told(MARKET);
         int[] worths = {1, 5, 12, 60};
         int[] lies = {9, 3, 0, 0};
@@ -354,7 +296,7 @@ public final class PromisesTest {
         due("kind 4", x.coin(4, 2), UNKNOWN);
         due("kind far below", x.coin(LEAST, LEAST), UNKNOWN);
         due("kind far above", x.coin(MOST, 0), UNKNOWN);
-        promise = 7;
+        sentence("promise 7");
         due("purse", x.purse(0, 1), 2);
         due("purse", x.purse(1, 3), 1);
         due("purse", x.purse(2, 0), 4);
@@ -367,7 +309,7 @@ public final class PromisesTest {
     }
 
     private static void person() {
-        promise = 8;
+        sentence("promise 8");
         ThrownCoins x = told(MARKET, MARKET_COMES);
         int[][] due = {{10, 1, NONE, 2}, {72, 2, 20, 2}, {16, 3, NONE, 2}, {0, 0, NONE, 0}};
         for (int person = 0; person < 4; person++) {
@@ -386,7 +328,7 @@ public final class PromisesTest {
     }
 
     private static void as() {
-        promise = 9;
+        sentence("promise 9");
         // Kind 1 gains 9 less 5, kind 2 gains 24 less 12, kind 3 loses: 24 less 60.
         String all = ";purse 0 1 1;purse 0 2 1;purse 0 3 1";
         String worths = "coins 1 5 12 60;lies 0 9;lies 1 3" + all + ";";
@@ -427,7 +369,7 @@ public final class PromisesTest {
     }
 
     private static void come() {
-        promise = 10;
+        sentence("promise 10");
         ThrownCoins x = told("come 2 0 3");
         due("come(0)", x.come(0), 2);
         due("come(1)", x.come(1), 0);
@@ -445,7 +387,7 @@ public final class PromisesTest {
     }
 
     private static void gain() {
-        promise = 11;
+        sentence("promise 11");
         String house = "coins 1 5 12 60;lies 0 9;lies 1 3;lies 2 1;purse 3 0 1;purse 3 1 1;purse 3 2 1;purse 3 3 1;law ";
         int[][] due = {
             {-1, 9 - 5, 24 - 12, 36 - 60},
@@ -471,7 +413,7 @@ public final class PromisesTest {
     }
 
     private static void visit() {
-        promise = 12;
+        sentence("promise 12");
         String house = "coins 1 5 12;lies 0 9;lies 1 3;purse 3 1 2;purse 3 2 2;come 3 3;law ";
         int[][] lies = {{0, 4, 0}, {0, 1, 0}, {8, 4, 0}, {0, 4, 0}};
         int[] gains = {4, 19, -4, 4};
@@ -512,7 +454,7 @@ public final class PromisesTest {
     }
 
     private static void go() {
-        promise = 13;
+        sentence("promise 13");
         ThrownCoins x = told(MARKET, MARKET_COMES);
         due("go(0)", x.go(0), OUTSIDE);
         due("go(-1)", x.go(-1), OUTSIDE);
@@ -540,7 +482,7 @@ public final class PromisesTest {
     }
 
     private static void plan() {
-        promise = 14;
+        sentence("promise 14");
         // By habit he throws nothing: 6 less 6. But with the threes that he gets so, he gets the twos.
         ThrownCoins x = told("coins 2 3 6;law 3;lies 1 2;lies 0 3;purse 0 2 1;greedy 0;come 0 0");
         due("worth", x.plan(0, NONE), 9);
@@ -580,7 +522,7 @@ public final class PromisesTest {
     }
 
     private static void game() {
-        promise = 15;
+        sentence("promise 15");
         // 1 waits: thrown at first, his three would be 0's. So 0 gets nine for five, and 1 two twos for three, after all.
         ThrownCoins x = told("coins 2 3 5;law 3;lies 0 2;lies 1 3;purse 0 2 1;purse 1 1 1;greedy 0;greedy 1;come 1 0 1");
         due("game(0)", x.game(0), 9);
@@ -590,7 +532,7 @@ public final class PromisesTest {
         due("person 4", x.game(4), UNKNOWN);
         due("nothing changes", x.count(7), 13 + 8);
         due("nothing changes", x.count(4), 0);
-        promise = 16;
+        sentence("promise 16");
         due("choice(0)", x.choice(0), 0);
         due("choice(1)", x.choice(1), 3);
         due("choice(2)", x.choice(2), 2);
@@ -602,13 +544,13 @@ public final class PromisesTest {
         due("from now", x.choice(0), 3);
         due("from now", x.choice(1), 0);
         due("from now", x.choice(2), NONE);
-        promise = 15;
+        sentence("promise 15");
         due("from now", x.game(0), 12);
         // As in plan: 0, who never throws, gets nine for six here.
         ThrownCoins y = told("coins 2 3 6;law 3;lies 1 2;lies 0 3;purse 0 2 1;never 0;come 0 0 1 1 2 3");
         due("whatever the habit", y.game(0), 9);
         due("six visits", y.game(3), 0);
-        promise = 16;
+        sentence("promise 16");
         due("six visits", y.choice(5), 0);
         due("his first", y.choice(0), 3);
         due("his second", y.choice(1), 2);
@@ -616,18 +558,18 @@ public final class PromisesTest {
         due("seven visits", y.choice(0), NOT);
         due("seven visits, none such", y.choice(7), NOT);
         due("outside comes first", y.choice(-1), OUTSIDE);
-        promise = 15;
+        sentence("promise 15");
         due("seven visits", y.game(0), NOT);
         due("unknown comes first", y.game(4), UNKNOWN);
         due("six are left", y.go(1) == 1 ? y.game(2) : NOT, 0);
         ThrownCoins z = told("coins 1 2 4;lies 0 4;lies 1 1;purse 0 1 1;purse 0 2 1;come 0");
-        promise = 16;
+        sentence("promise 16");
         due("of several the least kind", z.choice(0), 2);
         due("no gain: none", told("coins 1 2;lies 0 2;purse 0 1 1;come 0").choice(0), 0);
     }
 
     private static void league() {
-        promise = 17;
+        sentence("promise 17");
         // Alone, 1 gains 1 by his two; together 0's one takes all three ones and gains 2.
         ThrownCoins x = told("coins 1 2;law 1;lies 0 3;purse 0 0 1;purse 1 1 1;greedy 0;greedy 1;come 1 0");
         due("league", x.league(0, 1), 5);
@@ -651,7 +593,7 @@ public final class PromisesTest {
     }
 
     private static void mean() {
-        promise = 18;
+        sentence("promise 18");
         // There, 1 takes the four ones; away, 0 gains 1 by his three: 3 or 4 in the end.
         ThrownCoins x = told("coins 1 3;lies 0 4;purse 0 1 1;purse 1 1 1;greedy 0;greedy 1;come 1 0");
         long[][] due = {{4, 1}, {39, 10}, {19, 5}, {37, 10}, {18, 5}, {7, 2}, {17, 5}, {33, 10}, {16, 5}, {31, 10}, {3, 1}};
@@ -688,7 +630,7 @@ public final class PromisesTest {
     }
 
     private static void dry() {
-        promise = 19;
+        sentence("promise 19");
         due("without visits", new ThrownCoins().dry(), NONE);
         ThrownCoins x = told("coins 1 3;lies 0 4;purse 0 1 1;greedy 0;come 0 1 2");
         due("a throw and a round", x.dry(), 4);
@@ -710,7 +652,7 @@ public final class PromisesTest {
     }
 
     private static void bait() {
-        promise = 20;
+        sentence("promise 20");
         // A five asks for six: now nine ones lie there.
         due("he would as it is", told(MARKET).bait(0), 0);
         ThrownCoins x = told("coins 1 2 4 9;purse 0 3 1;greedy 0");
@@ -741,7 +683,7 @@ public final class PromisesTest {
     }
 
     private static void noteAndForget() {
-        promise = 21;
+        sentence("promise 21");
         ThrownCoins x = told("coins 1 2");
         due("note", x.note(0, 0), 1);
         due("note", x.note(1, 9999), 2);
@@ -757,17 +699,17 @@ public final class PromisesTest {
         due("outside comes first", x.note(0, -1), OUTSIDE);
         due("unknown comes first", x.note(2, 0), UNKNOWN);
         due("six", x.count(5), 6);
-        promise = 22;
+        sentence("promise 22");
         due("forget", x.forget(), 6);
         due("forget again", x.forget(), 0);
         due("none", x.count(5), 0);
         due("all may lie there", x.lay(0), 16);
-        promise = 21;
+        sentence("promise 21");
         due("from the first again", x.note(1, 0), 1);
     }
 
     private static void lay() {
-        promise = 23;
+        sentence("promise 23");
         ThrownCoins x = told("coins 1 2 4");
         due("without notes", x.lay(0), 64);
         due("without notes", x.lay(1), 0);
@@ -823,7 +765,7 @@ public final class PromisesTest {
     }
 
     private static void keepAndBack() {
-        promise = 24;
+        sentence("promise 24");
         ThrownCoins x = told(MARKET, MARKET_COMES);
         due("k -1", x.keep(-1), UNKNOWN);
         due("k 2", x.keep(2), UNKNOWN);
@@ -831,7 +773,7 @@ public final class PromisesTest {
         due("go", x.go(3), 3);
         due("keep(1)", x.keep(1), 3);
         due("note", x.note(0, 0), 1);
-        promise = 25;
+        sentence("promise 25");
         due("k -1", x.back(-1), UNKNOWN);
         due("k 2", x.back(2), UNKNOWN);
         due("back(0)", x.back(0), 0);
@@ -844,17 +786,17 @@ public final class PromisesTest {
         due("wealth", x.person(2, 0), 24);
         due("lies", x.coin(2, 1), 1);
         due("go", x.go(1), 4);
-        promise = 24;
+        sentence("promise 24");
         due("over the older", x.keep(0), 4);
-        promise = 25;
+        sentence("promise 25");
         due("the newer", x.back(0), 4);
         due("it stays kept", x.go(1) == 5 ? x.back(0) : 0, 4);
         tell(x, "law 1");
         due("nothing since the text", x.back(0), NOT);
         due("nothing since the text", x.back(1), NOT);
-        promise = 24;
+        sentence("promise 24");
         due("keep(1)", x.keep(1), 0);
-        promise = 25;
+        sentence("promise 25");
         due("only the other", x.back(0), NOT);
         due("back(1)", x.back(1), 0);
         // What was foretold ahead of a change is not answered behind it.
@@ -870,7 +812,7 @@ public final class PromisesTest {
     }
 
     private static void count() {
-        promise = 26;
+        sentence("promise 26");
         ThrownCoins x = told(MARKET, MARKET_COMES + ";law 3");
         due("go", x.go(1), 1);
         due("note", x.note(3, 0), 1);
@@ -886,7 +828,7 @@ public final class PromisesTest {
 
     /** What is foretold, asked or refused leaves all as it was. */
     private static void nothingChanges() {
-        promise = 26;
+        sentence("promise 26");
         ThrownCoins x = told(MARKET, MARKET_COMES);
         x.go(2);
         x.note(1, 9);
