@@ -85,6 +85,8 @@ public final class EdgesForetoldTest extends Asking {
         // A two for four ones leaves three twos for the four: 2 and 2. The four first gains 4, and the two then nothing.
         row("coins 1 2 4;lies 0 4;lies 1 2;purse 0 1 1;purse 0 2 1;come 0 0", 10, 0, 3);
         row("coins 1 2 3;lies 0 4;lies 1 2;purse 0 1 1;purse 0 2 1;come 0 0", 5 + 5, 0, 3);
+        // Either the twos for a three and then two threes for a five, or all of them for the five at once.
+        row("coins 2 3 5;lies 0 2;lies 1 1;purse 0 1 1;purse 0 2 1;purse 1 1 1;greedy 1;come 0 1 0", 10, 2, 3);
         row("coins 1 2 4;purse 0 1 1;purse 0 2 1;come 0 0", 6, 0, 0);
         row("coins 1;come 0 0", 0, 0, 0);
     }

@@ -12,6 +12,7 @@ public final class EdgesOfNotesTest extends Asking {
         layOfSeveralNotes();
         noneLay();
         kept();
+        foretoldBehindBack();
         notKept();
         counts();
         coinsAndPurses();
@@ -273,6 +274,29 @@ public final class EdgesOfNotesTest extends Asking {
             due("keep(" + k + ")", x.keep(k), UNKNOWN);
             due("back(" + k + ")", x.back(k), UNKNOWN);
         }
+    }
+
+    private static void foretoldBehindBack() {
+        sentence("back: It is as it was kept: FORETOLD from there, too");
+        ThrownCoins x = told(HOUSE);
+        due("keep(0)", x.keep(0), 0);
+        due("plan", x.plan(0, NONE), 19);
+        due("choice", x.choice(2), 2);
+        due("visit", x.visit(1), WITHOUT + 4);
+        due("plan", x.plan(0, 1), NONE);
+        due("choice", x.choice(2), NONE);
+        due("league", x.league(0, 1), 19);
+        due("back(0)", x.back(0), 0);
+        due("league", x.league(0, 1), 19);
+        due("two visits again", x.plan(0, 1), 2);
+        due("back(0)", x.back(0), 0);
+        due("three visits again", x.choice(2), 2);
+        due("go", x.go(24), 3);
+        due("none is left", x.choice(0), NONE);
+        due("back(0)", x.back(0), 0);
+        due("three visits again", x.choice(0), 0);
+        due("as at first", x.game(0), 19);
+        due("as at first", x.dry(), 4);
     }
 
     private static void notKept() {

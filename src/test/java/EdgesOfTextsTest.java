@@ -29,6 +29,7 @@ public final class EdgesOfTextsTest extends Asking {
         blanks();
         endsTooSoon();
         tokensThatCannotStand();
+        eachLetter();
         theFirstFault();
         doneInOrder();
         whatStays();
@@ -450,6 +451,18 @@ public final class EdgesOfTextsTest extends Asking {
             faultAt(text.length(), text + ",");
             faultAt(text.length(), text + "-");
             faultAt(more ? NONE : text.length(), text + (form[0].equals("come") ? "3" : "8"));
+        }
+    }
+
+    private static void eachLetter() {
+        sentence("each is one of: coins, lies, purse, never, greedy, waiting, cheap, come, law, alone");
+        for (String[] form : FORMS) {
+            String line = String.join(" ", form);
+            for (int i = 0; i < form[0].length(); i++) {
+                for (int step = -1; step <= 1; step += 2) {
+                    faultAt(0, line.substring(0, i) + (char) (line.charAt(i) + step) + line.substring(i + 1));
+                }
+            }
         }
     }
 

@@ -176,6 +176,10 @@ public final class EdgesOfThrowsTest extends Asking {
         habit(2, "greedy 0", three, "lies 0 3", "lies 1 4", "lies 2 2");
         habit(3, "greedy 0", three, "lies 0 3", "lies 1 3", "lies 2 2");
         habit(1, "greedy 0", three, "lies 0 4", "lies 1 3", "lies 2 2");
+        // Greater by 1: 1 and 2; then 9, 11 and 5; then 9, 11 and 12.
+        habit(2, "greedy 0", three, "lies 0 2", "lies 1 3");
+        habit(2, "greedy 0", three, "lies 0 6", "lies 1 6", "lies 2 2");
+        habit(3, "greedy 0", three, "lies 0 6", "lies 1 6", "lies 2 3");
         ThrownCoins x = told("coins 1 2 4;lies 0 4;lies 1 1;purse 0 1 1;purse 0 2 1;greedy 0");
         due("two and four gain 2 each", x.as(0, 0), 1);
         tell(x, "lies 1 0");

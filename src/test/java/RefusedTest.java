@@ -25,11 +25,25 @@ public final class RefusedTest extends Asking {
         keepAndBack();
         count();
         questions();
+        undone();
         end("what is refused changes nothing");
     }
 
     /** Four kinds, each habit, a visit gone, both kept, two notes and a text that is right: four visits are left. */
     private static ThrownCoins busy() {
+        ThrownCoins x = withoutText();
+        writeText(x, "law 3;come 1 1");
+        return x;
+    }
+
+    private static ThrownCoins withoutText() {
+        ThrownCoins x = withoutNotes();
+        x.note(1, 9);
+        x.note(0, 0);
+        return x;
+    }
+
+    private static ThrownCoins withoutNotes() {
         ThrownCoins x = told("coins 1 5 12 60;lies 0 9;lies 1 3;purse 0 1 2;purse 1 2 1;purse 1 3 1;purse 2 0 4;greedy 0",
                 "waiting 1 20;cheap 2;purse 2 2 1;come 0 1 2 0 1 2 3");
         x.go(1);
@@ -37,9 +51,6 @@ public final class RefusedTest extends Asking {
         x.visit(NONE);
         x.keep(1);
         x.go(1);
-        x.note(1, 9);
-        x.note(0, 0);
-        writeText(x, "law 3;come 1 1");
         return x;
     }
 
@@ -349,7 +360,7 @@ public final class RefusedTest extends Asking {
         }
     }
 
-    /** One after another, as the answers are known from elsewhere: only what lies behind them is looked at. */
+    /** What they answer is held against the document elsewhere. */
     private static void questions() {
         sentence("FORETOLD from now (nothing changes)");
         Call[] questions = {
@@ -362,6 +373,32 @@ public final class RefusedTest extends Asking {
             leavesAll("question " + i, RefusedTest::busy, questions[i].on(busy()), questions[i]);
             leavesAll("question " + i, RefusedTest::full, questions[i].on(full()), questions[i]);
             leavesAll("question " + i, RefusedTest::gone, questions[i].on(gone()), questions[i]);
+        }
+    }
+
+    private static ThrownCoins keptAsItIs() {
+        ThrownCoins x = withoutText();
+        x.keep(0);
+        x.keep(1);
+        writeText(x, "alone;law");
+        return x;
+    }
+
+    /** Calls that are undone by another, or do what was done: nothing else comes of them. */
+    private static void undone() {
+        sentence("erase: THE TEXT is empty");
+        leavesAll("erase() without a text", RefusedTest::withoutText, 0, ThrownCoins::erase);
+        leavesAll("write and erase", RefusedTest::withoutText, 8, x -> x.write(-1, 8) == 8 ? x.erase() : NONE);
+        sentence("forget: NOTES are none");
+        leavesAll("forget() without notes", RefusedTest::withoutNotes, 0, ThrownCoins::forget);
+        leavesAll("note and forget", RefusedTest::withoutNotes, 1, x -> x.note(3, 9999) == 1 ? x.forget() : NONE);
+        sentence("keep, back: What lies there, PURSES, VISITS that have gone");
+        for (int k = 0; k < 2; k++) {
+            int asked = k;
+            leavesAll("keep(" + k + ") again", RefusedTest::keptAsItIs, 3, x -> x.keep(asked));
+            leavesAll("back(" + k + ") at once", RefusedTest::keptAsItIs, 3, x -> x.back(asked));
+            leavesAll("back(" + k + ") behind a visit", RefusedTest::keptAsItIs, 3, x -> x.visit(1) > 0 ? x.back(asked) : NONE);
+            leavesAll("back(" + k + ") behind all", RefusedTest::keptAsItIs, 3, x -> x.go(24) == 7 ? x.back(asked) : NONE);
         }
     }
 }
