@@ -2,6 +2,18 @@
 public final class EdgesForetoldTest extends Asking {
     private static final int WITHOUT = 100000;
 
+    /** By law 3 the first throw gains nothing: but with the threes that he gets for his six, he gets the twos. */
+    private static final String TWICE = "coins 2 3 6;law 3;lies 1 2;lies 0 3;purse 0 2 1;greedy 0;";
+
+    /** By law 3 each throw gains, and what it takes is thrown for the kind below. */
+    private static final String CHAIN = "coins 5 6 7 8 9 10;law 3;lies 0 2;lies 1 2;lies 2 2;lies 3 2;lies 4 2;purse 0 5 1;";
+
+    /** 0 and 1 stand in each other's way: who throws first leaves his coin to the other. */
+    private static final String BOTH = "coins 2 3 5;law 3;lies 0 2;lies 1 3;purse 0 2 1;purse 1 1 1;greedy 0;greedy 1;";
+
+    /** Who comes first takes the four ones. */
+    private static final String HALF = "coins 1 3;lies 0 4;purse 0 1 1;purse 1 1 1;greedy 0;greedy 1;";
+
     public static void main(String[] args) {
         planOfVisits();
         planOfSeveral();
@@ -21,9 +33,6 @@ public final class EdgesForetoldTest extends Asking {
         end("what is foretold is as due");
     }
 
-    /** By law 3 the first throw gains nothing: but with the threes that he gets for his six, he gets the twos. */
-    private static final String TWICE = "coins 2 3 6;law 3;lies 1 2;lies 0 3;purse 0 2 1;greedy 0;";
-
     private static void row(String told, int... due) {
         ThrownCoins x = told(told);
         for (int i = 0; i < due.length; i++) {
@@ -42,6 +51,13 @@ public final class EdgesForetoldTest extends Asking {
         row(TWICE + "come 0 0 0 0", 9, 0, 0, 3, 2);
         row(TWICE + "come 0 0 0 0 0", 9, 0, 0, 0, 3, 2);
         row(TWICE + "come 1 0 2 0 3 0 1 0 2;come 0 3", 9, 0, 0, 0, 3, 2);
+        row(CHAIN + "alone", 10);
+        row(CHAIN + "come 0", 10 + 8, 6);
+        row(CHAIN + "come 0 0", 10 + 8 + 7, 6, 5);
+        row(CHAIN + "come 0 0 0", 10 + 8 + 7 + 6, 6, 5, 4);
+        row(CHAIN + "come 0 0 0 0", 10 + 8 + 7 + 6 + 5, 6, 5, 4, 3);
+        // Rather the sixes for another eight: then two eights are worth a nine.
+        row(CHAIN + "come 0 0 0 0 0", 10 + 8 + 7 + 6 + 4 + 7, 6, 5, 4, 4, 5);
         ThrownCoins x = told(TWICE + "come 0 0 0 0 0 0");
         due("six visits", x.plan(0, NONE), NOT);
         due("six visits", x.plan(0, 0), NOT);
@@ -89,6 +105,9 @@ public final class EdgesForetoldTest extends Asking {
         row("coins 2 3 5;lies 0 2;lies 1 1;purse 0 1 1;purse 0 2 1;purse 1 1 1;greedy 1;come 0 1 0", 10, 2, 3);
         row("coins 1 2 4;purse 0 1 1;purse 0 2 1;come 0 0", 6, 0, 0);
         row("coins 1;come 0 0", 0, 0, 0);
+        row("coins 2 4 8;law 3;lies 0 2;lies 1 1;purse 0 1 1;purse 0 2 1;come 0 0 0", 12, 0, 0, 0);
+        // A three takes a one; then a seven takes four threes.
+        row("coins 1 3 7;law 3;lies 0 1;lies 1 3;purse 0 1 1;purse 0 2 1;come 0 0 0", 13, 0, 2, 3);
     }
 
     private static void planFromNow() {
@@ -118,8 +137,6 @@ public final class EdgesForetoldTest extends Asking {
         due("as it is", x.plan(0, NONE), 9);
     }
 
-    private static final String BOTH = "coins 2 3 5;law 3;lies 0 2;lies 1 3;purse 0 2 1;purse 1 1 1;greedy 0;greedy 1;";
-
     private static void played(String told, int[] worths, int... choices) {
         ThrownCoins x = told(told);
         for (int person = 0; person < worths.length; person++) {
@@ -139,6 +156,8 @@ public final class EdgesForetoldTest extends Asking {
         played(BOTH + "come 1 0 1", new int[] {9, 4, 0, 0}, 0, 3, 2);
         played(BOTH + "come 2 1 3 0 1", new int[] {9, 4, 0, 0}, 0, 0, 0, 3, 2);
         played(BOTH + "come 2 1 3 0 1 2", new int[] {9, 4, 0, 0}, 0, 0, 0, 3, 2, 0);
+        played(CHAIN + "come 0 0 0 0 0", new int[] {10 + 8 + 7 + 6 + 4 + 7, 0, 0, 0}, 6, 5, 4, 4, 5);
+        played(CHAIN + "come 0 0 0 0 0 0", new int[] {10 + 8 + 7 + 6 + 4 + 4 + 7, 0, 0, 0}, 6, 5, 4, 4, 2, 5);
         ThrownCoins x = told(BOTH + "come 2 2 1 3 0 1 2");
         for (int person = 0; person < 4; person++) {
             due("seven visits", x.game(person), NOT);
@@ -249,8 +268,6 @@ public final class EdgesForetoldTest extends Asking {
         due("two of three", x.league(0, 2), 5);
     }
 
-    private static final String HALF = "coins 1 3;lies 0 4;purse 0 1 1;purse 1 1 1;greedy 0;greedy 1;";
-
     private static void meanOfVisits() {
         sentence("MEAN of one of PEOPLE (10 VISITS at most)");
         ThrownCoins x = told(HALF + "come 1 1 1 1 1 1 1 1 0");
@@ -264,6 +281,12 @@ public final class EdgesForetoldTest extends Asking {
         due("ten visits", x.mean(0, 5, 1), 512);
         due("ten visits: 3 + 0.8 to the ninth", x.mean(0, 2, 0), 6121519);
         due("ten visits", x.mean(0, 2, 1), 1953125);
+        ThrownCoins others = told(HALF + "purse 2 1 1;cheap 2;come 1 2 1 2 1 2 1 2 1;come 2");
+        for (int p = 0; p <= 10; p++) {
+            due("ten of others", others.mean(0, p, 0), 3);
+            due("ten of others", others.mean(0, p, 1), 1);
+        }
+        due("ten of his own", told(HALF + "come 0 0 0 0 0 0 0 0 0;come 0").mean(0, 3, 0), 4);
         tell(x, "come 2");
         due("eleven visits", x.mean(0, 3, 0), NOT);
         due("eleven visits", x.mean(3, 10, 1), NOT);
