@@ -13,6 +13,8 @@ public final class ThrownCoins {
     private static final int KEEPS = 2, WITHOUT = 100000;
 
     private static final int BELOW = 0, UP_TO = 1, ONE_OF_NEXT = 2, ALL_OF_NEXT = 3;
+    /** No limit: there are never more than a hundred coins of a kind. */
+    private static final int ALL_THERE_ARE = 1000000;
     private static final int NEVER = 0, GREEDY = 1, WAITING = 2, CHEAP = 3;
     private static final int LAST_TAKEN_AS = 5;
     private static final int EACH_HIS_OWN = 0x8421;
@@ -504,7 +506,7 @@ public final class ThrownCoins {
         }
 
         private int mostTakenOfKind() {
-            return law == ONE_OF_NEXT ? 1 : Integer.MAX_VALUE;
+            return law == ONE_OF_NEXT ? 1 : ALL_THERE_ARE;
         }
 
         private boolean takesOneKind() {
